@@ -12,7 +12,7 @@ public final class PromiseTests {
         promise1();
         promise2Codes();
         promise2Building();
-        promise2NoneLeans();
+        promise2OtherLimit();
         promise3Places();
         promise3Building();
         promise3OtherLimit();
@@ -166,17 +166,18 @@ public final class PromiseTests {
         due.is("account(6)", x.account(6), 8);
     }
 
-    private static void promise2NoneLeans() {
-        due.part("promise 2, none leans");
+    // That none leans above a sheaf that is too deep cannot be: if none did, each part would be at
+    // most the limit of the one above, and so the sheaf no deeper than it may be.
+    private static void promise2OtherLimit() {
+        due.part("promise 2, other limit");
         LeaningRicks x = new LeaningRicks();
-        // with the limit 55 three sheaves may have the depth 0, so the third one is too deep: its
-        // part above has 2 with 1 below it (100 < 110), the one above that 3 with 2 (200 > 165)
+        // with the limit 55 two sheaves may have the depth 1 (2, 1), three, too (3, 1): the third
+        // one is too deep; the part just above it has 2 with 1 below (100 is not more than 110),
+        // the next one 3 with 2 below (200 is more than 165)
         x.limit(55);
         due.is("put 1st", x.put(1, 5, 1), 0);
-        // two sheaves may have the depth 0: the second one is too deep, but none leans
         due.is("put 2nd", x.put(1, 6, 1), 0);
         tells(x, 1, "(5(6))");
-        due.is("account(4)", x.account(4), 0);
         due.is("put 3rd", x.put(1, 7, 1), 3);
         tells(x, 1, "((5)6(7))");
         due.is("account(4)", x.account(4), 1);
