@@ -212,7 +212,7 @@ public final class LeaningRicks {
         if (its.count <= 0) {
             return NOTHING;
         }
-        return floatBits((float) its.leaning(now.limit) / (float) its.count);
+        return shareBits((float) its.leaning(now.limit) / (float) its.count);
     }
 
     public long meanDepth(int rick) {
@@ -223,7 +223,7 @@ public final class LeaningRicks {
         if (its.count <= 0) {
             return NOTHING;
         }
-        return doubleBits((double) its.depths() / (double) its.count);
+        return meanBits((double) its.depths() / (double) its.count);
     }
 
     // ---- texts, lines
@@ -547,28 +547,25 @@ public final class LeaningRicks {
     // The library that the program keeps to has no floatToIntBits and no doubleToLongBits. Every
     // step here only changes the exponent or is exact, so no bit is lost.
 
-    private static int floatBits(float number) {
-        if (!(number > 0f)) {
+    /** The bits of a share, which is at most 1. */
+    private static int shareBits(float share) {
+        if (!(share > 0f)) {
             return 0;
         }
-        float part = number;
+        float part = share;
         int exponent = 127;
         for (int i = 0; i < BITS && part < 1f; i++) {
             part = part * 2f;
             exponent--;
         }
-        for (int i = 0; i < BITS && part >= 2f; i++) {
-            part = part / 2f;
-            exponent++;
-        }
         return (exponent << 23) + (int) ((part - 1f) * (float) (1 << 23));
     }
 
-    private static long doubleBits(double number) {
-        if (!(number > 0.0)) {
+    private static long meanBits(double mean) {
+        if (!(mean > 0.0)) {
             return 0L;
         }
-        double part = number;
+        double part = mean;
         long exponent = 1023L;
         for (int i = 0; i < BITS && part < 1.0; i++) {
             part = part * 2.0;

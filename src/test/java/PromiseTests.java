@@ -297,6 +297,9 @@ public final class PromiseTests {
         due.is("build(0)", x.build(0), 3);
         tells(x, 0, "((20)30(40))");
         due.is("rickOf(0, 5)", x.rickOf(0, 5), 3);
+        x.undo();
+        tells(x, 0, "(20(30(40)))");
+        due.is("rickOf(0, 5)", x.rickOf(0, 5), 4);
     }
 
     private static void promise5() {
@@ -321,6 +324,11 @@ public final class PromiseTests {
         due.is("account(6)", x.account(6), 12);
         due.is("account(7)", x.account(7), 2);
         due.is("isBalanced()", x.isBalanced(), 1);
+        x.undo();
+        tells(x, 0, "((10(20))30((35)40(50)))");
+        x.undo();
+        tells(x, 0, "(10((20)40))");
+        tells(x, 1, "((30(35))50)");
         // the most become the sheaves, also if they were more
         LeaningRicks y = with(0, 1, 2, 3, 4, 5);
         y.limit(55);
@@ -593,6 +601,7 @@ public final class PromiseTests {
         due.is("weights(1, 1)", x.weights(1, 1), 1L << 62 | 1L << 63);
         due.is("weights(1, 100)", x.weights(1, 100), 1L);
         due.is("weights(1, 101)", x.weights(1, 101), 0);
+        due.is("weights(1, 36)", x.weights(1, 36), 1L << 27 | 1L << 28);
         due.is("weights(0, 0)", x.weights(0, 0), 0);
         due.is("weights(3, 0)", x.weights(3, 0), 0);
         due.is("weights(-1, 0)", x.weights(-1, 0), 0);
