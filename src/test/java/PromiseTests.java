@@ -196,6 +196,12 @@ public final class PromiseTests {
         due.is("take(1, 50)", x.take(1, 50), NONE);
         x.put(1, 50, 77);
         due.is("take(1, 50)", x.take(1, 50), 77);
+        x.undo();
+        due.is("take(1, 50) again", x.take(1, 50), 77);
+        x.put(1, 51, 8);
+        x.put(1, 49, 9);
+        due.is("take(1, 49)", x.take(1, 49), 9);
+        due.is("take(1, 51)", x.take(1, 51), 8);
         tells(x, 0, "((25)50(((55)60)75(90)))");
         x.take(0, 50);
         tells(x, 0, "((25)55((60)75(90)))");
@@ -204,6 +210,8 @@ public final class PromiseTests {
         tells(y, 0, "(10!((20)30(40)))");
         y.take(0, 10);
         tells(y, 0, "((20)30(40))");
+        due.is("sheafOf(0, 30, 1)", y.sheafOf(0, 30, 1), 0);
+        due.is("rickOf(0, 7)", y.rickOf(0, 7), 2);
         // none to the right of it
         LeaningRicks z = with(0, 50, 30, 60, 40, 20);
         z.take(0, 60);
@@ -215,10 +223,14 @@ public final class PromiseTests {
         tells(u, 2, "((20)50((60(70))80(90)))");
         u.take(2, 50);
         tells(u, 2, "((20)60((70)80(90)))");
+        due.is("sheafOf(2, 60, 1)", u.sheafOf(2, 60, 1), 0);
+        due.is("sheafOf(2, 70, 1)", u.sheafOf(2, 70, 1), 2);
+        due.is("rickOf(2, 7)", u.rickOf(2, 7), 6);
         // the lightest one to the right is just below, with some to its right
         LeaningRicks v = with(2, 50, 20, 80, 90);
         v.take(2, 50);
         tells(v, 2, "((20)80(90))");
+        due.is("rickOf(2, 7)", v.rickOf(2, 7), 2);
         due.is("account(3)", v.account(3), 1);
         due.is("account(5)", v.account(5), 0);
         // its account and the most stay as they were
@@ -261,7 +273,7 @@ public final class PromiseTests {
         y.take(0, 2);
         due.is("account(5), 300 is less than 76 * 4", y.account(5), 1);
         // a part built anew that is the whole does not set the most: with the limit 80 the sheaf
-        // 8 is too deep, and 500 of 6 sheaves are the first that are more than their 80 parts
+        // 8 is too deep, and the first one that leans is the top (500 is more than 480)
         LeaningRicks z = new LeaningRicks();
         z.limit(90);
         putAll(z, 0, 1, 2, 3, 4, 5, 6, 7);
