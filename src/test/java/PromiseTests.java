@@ -45,46 +45,6 @@ public final class PromiseTests {
         due.end();
     }
 
-    private static LeaningRicks with(int rick, int... weights) {
-        LeaningRicks x = new LeaningRicks();
-        putAll(x, rick, weights);
-        return x;
-    }
-
-    private static void putAll(LeaningRicks x, int rick, int... weights) {
-        for (int weight : weights) {
-            x.put(rick, weight, 1);
-        }
-    }
-
-    private static int runText(LeaningRicks x, String text) {
-        for (int i = 0; i < text.length(); i++) {
-            x.append(text.charAt(i));
-        }
-        return x.run();
-    }
-
-    private static String told(LeaningRicks x, int rick) {
-        StringBuilder line = new StringBuilder();
-        int length = x.tell(rick);
-        for (int i = 0; i < length; i++) {
-            line.append((char) x.character(i));
-        }
-        return line.toString();
-    }
-
-    private static void tells(LeaningRicks x, int rick, String line) {
-        String answer = told(x, rick);
-        due.is("tell(" + rick + "), which wrote " + answer + " where " + line + " is due: equal",
-                answer.equals(line) ? 1 : 0, 1);
-    }
-
-    private static void refused(LeaningRicks x, String call, int answer, int reason, int detail) {
-        due.is(call, answer, REFUSED);
-        due.is(call + ", reason(false)", x.reason(false), reason);
-        due.is(call + ", reason(true)", x.reason(true), detail);
-    }
-
     private static void theConstants() {
         due.part("constants");
         due.is("NONE", NONE, -11);
@@ -128,16 +88,16 @@ public final class PromiseTests {
         due.is("put(0, 0, 1)", x.put(0, 0, 1), 0);
         due.is("put(0, 999, 99)", x.put(0, 999, 99), 0);
         due.is("put(0, 999, 0)", x.put(0, 999, 0), BAD);
-        refused(x, "put(0, 999, 5)", x.put(0, 999, 5), 2, 999);
+        due.refused(x, "put(0, 999, 5)", x.put(0, 999, 5), 2, 999);
         due.is("put(2, 999, 5)", x.put(2, 999, 5), 0);
         due.is("sheafOf(0, 999, 0)", x.sheafOf(0, 999, 0), 99);
         for (int i = 1; i <= 28; i++) {
             x.put(0, i * 7, 2);
         }
         due.is("rickOf(0, 0)", x.rickOf(0, 0), 30);
-        refused(x, "put(0, 500, 1)", x.put(0, 500, 1), 1, 30);
+        due.refused(x, "put(0, 500, 1)", x.put(0, 500, 1), 1, 30);
         // the same weight is asked ahead of the room
-        refused(x, "put(0, 7, 1)", x.put(0, 7, 1), 2, 7);
+        due.refused(x, "put(0, 7, 1)", x.put(0, 7, 1), 2, 7);
         due.is("rickOf(0, 0)", x.rickOf(0, 0), 30);
         due.is("account(2)", x.account(2), 31);
     }
@@ -148,20 +108,20 @@ public final class PromiseTests {
         due.is("put 1st", x.put(0, 100, 1), 0);
         due.is("put 2nd", x.put(0, 110, 1), 0);
         due.is("put 3rd", x.put(0, 120, 1), 0);
-        tells(x, 0, "(100(110(120)))");
+        due.tells(x, 0, "(100(110(120)))");
         due.is("rickOf(0, 4), from 3 to 2 to 1", x.rickOf(0, 4), 2);
         // four sheaves may have the depth 2 (4, 2, 1): 130 has 3; 120 has a part of 2 with 1
         // below it (100 is not more than 140), 110 one of 3 with 2 below it (200 is not more
         // than 210), 100 one of 4 with 3 (300 is more than 280)
         due.is("put 4th", x.put(0, 130, 1), 4);
-        tells(x, 0, "((100)110(120(130)))");
+        due.tells(x, 0, "((100)110(120(130)))");
         due.is("account(4)", x.account(4), 1);
         due.is("account(6)", x.account(6), 4);
         due.is("account(5)", x.account(5), 0);
         // a part that is not the whole
         due.is("put 5th", x.put(0, 140, 1), 0);
         due.is("put 6th", x.put(0, 150, 1), 4);
-        tells(x, 0, "((100)110((120)130(140(150))))");
+        due.tells(x, 0, "((100)110((120)130(140(150))))");
         due.is("account(4)", x.account(4), 2);
         due.is("account(6)", x.account(6), 8);
     }
@@ -177,9 +137,9 @@ public final class PromiseTests {
         x.limit(55);
         due.is("put 1st", x.put(1, 5, 1), 0);
         due.is("put 2nd", x.put(1, 6, 1), 0);
-        tells(x, 1, "(5(6))");
+        due.tells(x, 1, "(5(6))");
         due.is("put 3rd", x.put(1, 7, 1), 3);
-        tells(x, 1, "((5)6(7))");
+        due.tells(x, 1, "((5)6(7))");
         due.is("account(4)", x.account(4), 1);
         due.is("account(5)", x.account(5), 0);
         due.is("rickOf(1, 5)", x.rickOf(1, 5), 3);
@@ -187,7 +147,7 @@ public final class PromiseTests {
 
     private static void promise3Places() {
         due.part("promise 3, places");
-        LeaningRicks x = with(0, 50, 25, 75, 60, 90, 55);
+        LeaningRicks x = Calls.with(0, 50, 25, 75, 60, 90, 55);
         due.is("take(-1, 50)", x.take(-1, 50), NONE);
         due.is("take(3, 50)", x.take(3, 50), NONE);
         due.is("take(0, 51)", x.take(0, 51), NONE);
@@ -202,34 +162,34 @@ public final class PromiseTests {
         x.put(1, 49, 9);
         due.is("take(1, 49)", x.take(1, 49), 9);
         due.is("take(1, 51)", x.take(1, 51), 8);
-        tells(x, 0, "((25)50(((55)60)75(90)))");
+        due.tells(x, 0, "((25)50(((55)60)75(90)))");
         x.take(0, 50);
-        tells(x, 0, "((25)55((60)75(90)))");
+        due.tells(x, 0, "((25)55((60)75(90)))");
         // none to the left of it: what is to the right takes its place, as it is
-        LeaningRicks y = with(0, 10, 30, 20, 40);
-        tells(y, 0, "(10!((20)30(40)))");
+        LeaningRicks y = Calls.with(0, 10, 30, 20, 40);
+        due.tells(y, 0, "(10!((20)30(40)))");
         y.take(0, 10);
-        tells(y, 0, "((20)30(40))");
+        due.tells(y, 0, "((20)30(40))");
         due.is("sheafOf(0, 30, 1)", y.sheafOf(0, 30, 1), 0);
         due.is("rickOf(0, 7)", y.rickOf(0, 7), 2);
         // none to the right of it
-        LeaningRicks z = with(0, 50, 30, 60, 40, 20);
+        LeaningRicks z = Calls.with(0, 50, 30, 60, 40, 20);
         z.take(0, 60);
-        tells(z, 0, "(((20)30(40))50!)");
+        due.tells(z, 0, "(((20)30(40))50!)");
         z.take(0, 50);
-        tells(z, 0, "((20)30(40))");
+        due.tells(z, 0, "((20)30(40))");
         // the lightest one to the right has one to its own right, and is not just below
-        LeaningRicks u = with(2, 50, 20, 80, 60, 90, 70);
-        tells(u, 2, "((20)50((60(70))80(90)))");
+        LeaningRicks u = Calls.with(2, 50, 20, 80, 60, 90, 70);
+        due.tells(u, 2, "((20)50((60(70))80(90)))");
         u.take(2, 50);
-        tells(u, 2, "((20)60((70)80(90)))");
+        due.tells(u, 2, "((20)60((70)80(90)))");
         due.is("sheafOf(2, 60, 1)", u.sheafOf(2, 60, 1), 0);
         due.is("sheafOf(2, 70, 1)", u.sheafOf(2, 70, 1), 2);
         due.is("rickOf(2, 7)", u.rickOf(2, 7), 6);
         // the lightest one to the right is just below, with some to its right
-        LeaningRicks v = with(2, 50, 20, 80, 90);
+        LeaningRicks v = Calls.with(2, 50, 20, 80, 90);
         v.take(2, 50);
-        tells(v, 2, "((20)80(90))");
+        due.tells(v, 2, "((20)80(90))");
         due.is("rickOf(2, 7)", v.rickOf(2, 7), 2);
         due.is("account(3)", v.account(3), 1);
         due.is("account(5)", v.account(5), 0);
@@ -239,7 +199,7 @@ public final class PromiseTests {
 
     private static void promise3Building() {
         due.part("promise 3, building");
-        LeaningRicks x = with(1, 500, 400, 600, 300, 350, 700, 800, 200, 450, 550);
+        LeaningRicks x = Calls.with(1, 500, 400, 600, 300, 350, 700, 800, 200, 450, 550);
         due.is("rickOf(1, 5)", x.rickOf(1, 5), 10);
         int parts = x.account(4);
         int before = x.account(6);
@@ -254,8 +214,8 @@ public final class PromiseTests {
         due.is("rickOf(1, 5) with 6 of 10", x.rickOf(1, 5), 6);
         due.is("account(6)", x.account(6), before + 6);
         due.is("account(4)", x.account(4), parts);
-        tells(x, 1, "((200(350))450((550)700(800)))");
-        LeaningRicks y = with(0, 4);
+        due.tells(x, 1, "((200(350))450((550)700(800)))");
+        LeaningRicks y = Calls.with(0, 4);
         due.is("take of the last", y.take(0, 4), 1);
         due.is("account(5)", y.account(5), 1);
         due.is("account(6)", y.account(6), 0);
@@ -264,11 +224,11 @@ public final class PromiseTests {
 
     private static void promise3OtherLimit() {
         due.part("promise 3, other limit");
-        LeaningRicks x = with(0, 5, 3, 7, 2);
+        LeaningRicks x = Calls.with(0, 5, 3, 7, 2);
         x.limit(75);
         x.take(0, 2);
         due.is("account(5), 300 is not less than 75 * 4", x.account(5), 0);
-        LeaningRicks y = with(0, 5, 3, 7, 2);
+        LeaningRicks y = Calls.with(0, 5, 3, 7, 2);
         y.limit(76);
         y.take(0, 2);
         due.is("account(5), 300 is less than 76 * 4", y.account(5), 1);
@@ -276,12 +236,12 @@ public final class PromiseTests {
         // 8 is too deep, and the first one that leans is the top (500 is more than 480)
         LeaningRicks z = new LeaningRicks();
         z.limit(90);
-        putAll(z, 0, 1, 2, 3, 4, 5, 6, 7);
+        Calls.putAll(z, 0, 1, 2, 3, 4, 5, 6, 7);
         z.limit(55);
         z.take(0, 1);
         z.take(0, 2);
         z.limit(80);
-        tells(z, 0, "(3(4(5(6(7)))))");
+        due.tells(z, 0, "(3(4(5(6(7)))))");
         due.is("put that builds all anew", z.put(0, 8, 1), 6);
         due.is("rickOf(0, 5)", z.rickOf(0, 5), 7);
         due.is("account(4)", z.account(4), 1);
@@ -290,12 +250,12 @@ public final class PromiseTests {
 
     private static void promise4() {
         due.part("promise 4");
-        LeaningRicks x = with(0, 10, 20, 30);
+        LeaningRicks x = Calls.with(0, 10, 20, 30);
         due.is("build(-1)", x.build(-1), NONE);
         due.is("build(3)", x.build(3), NONE);
-        refused(x, "build(2)", x.build(2), 5, 2);
+        due.refused(x, "build(2)", x.build(2), 5, 2);
         due.is("build(0)", x.build(0), 3);
-        tells(x, 0, "((10)20(30))");
+        due.tells(x, 0, "((10)20(30))");
         due.is("build(0)", x.build(0), 0);
         due.is("account(5)", x.account(5), 2);
         due.is("account(6)", x.account(6), 6);
@@ -303,25 +263,25 @@ public final class PromiseTests {
         due.is("account(10)", x.account(10), 5);
         x.put(0, 40, 1);
         due.is("build(0), of two in the middle the lighter one", x.build(0), 0);
-        tells(x, 0, "((10)20(30(40)))");
+        due.tells(x, 0, "((10)20(30(40)))");
         x.take(0, 10);
         due.is("rickOf(0, 5)", x.rickOf(0, 5), 4);
         due.is("build(0)", x.build(0), 3);
-        tells(x, 0, "((20)30(40))");
+        due.tells(x, 0, "((20)30(40))");
         due.is("rickOf(0, 5)", x.rickOf(0, 5), 3);
         x.undo();
-        tells(x, 0, "(20(30(40)))");
+        due.tells(x, 0, "(20(30(40)))");
         due.is("rickOf(0, 5)", x.rickOf(0, 5), 4);
     }
 
     private static void promise5() {
         due.part("promise 5");
-        LeaningRicks x = with(0, 10, 40, 20);
-        putAll(x, 1, 50, 30);
+        LeaningRicks x = Calls.with(0, 10, 40, 20);
+        Calls.putAll(x, 1, 50, 30);
         x.put(1, 35, 9);
         due.is("pour(1, 0)", x.pour(1, 0), 6);
-        tells(x, 0, "((10(20))30((35)40(50)))");
-        tells(x, 1, "");
+        due.tells(x, 0, "((10(20))30((35)40(50)))");
+        due.tells(x, 1, "");
         due.is("sheafOf(0, 35, 0)", x.sheafOf(0, 35, 0), 9);
         due.is("rickOf(0, 5)", x.rickOf(0, 5), 6);
         due.is("rickOf(1, 5)", x.rickOf(1, 5), 0);
@@ -331,18 +291,18 @@ public final class PromiseTests {
             due.is("account(" + what + ")", x.account(what), accounts[what]);
         }
         due.is("pour(0, 2) into one without sheaves", x.pour(0, 2), 6);
-        tells(x, 2, "((10(20))30((35)40(50)))");
+        due.tells(x, 2, "((10(20))30((35)40(50)))");
         due.is("account(5)", x.account(5), 2);
         due.is("account(6)", x.account(6), 12);
         due.is("account(7)", x.account(7), 2);
         due.is("isBalanced()", x.isBalanced(), 1);
         x.undo();
-        tells(x, 0, "((10(20))30((35)40(50)))");
+        due.tells(x, 0, "((10(20))30((35)40(50)))");
         x.undo();
-        tells(x, 0, "(10((20)40))");
-        tells(x, 1, "((30(35))50)");
+        due.tells(x, 0, "(10((20)40))");
+        due.tells(x, 1, "((30(35))50)");
         // the most become the sheaves, also if they were more
-        LeaningRicks y = with(0, 1, 2, 3, 4, 5);
+        LeaningRicks y = Calls.with(0, 1, 2, 3, 4, 5);
         y.limit(55);
         y.take(0, 1);
         y.take(0, 5);
@@ -354,27 +314,27 @@ public final class PromiseTests {
 
     private static void promise5Reasons() {
         due.part("promise 5, reasons");
-        LeaningRicks x = with(0, 10, 20, 30);
+        LeaningRicks x = Calls.with(0, 10, 20, 30);
         due.is("pour(-1, 0)", x.pour(-1, 0), NONE);
         due.is("pour(0, 3)", x.pour(0, 3), NONE);
         due.is("pour(3, 3)", x.pour(3, 3), NONE);
-        refused(x, "pour(0, 0)", x.pour(0, 0), 3, 0);
+        due.refused(x, "pour(0, 0)", x.pour(0, 0), 3, 0);
         // both are one: asked ahead of having no sheaves
-        refused(x, "pour(2, 2)", x.pour(2, 2), 3, 2);
-        refused(x, "pour(2, 0)", x.pour(2, 0), 5, 2);
-        putAll(x, 1, 30, 5, 20, 40);
-        refused(x, "pour(1, 0), the lowest same weight", x.pour(1, 0), 2, 20);
+        due.refused(x, "pour(2, 2)", x.pour(2, 2), 3, 2);
+        due.refused(x, "pour(2, 0)", x.pour(2, 0), 5, 2);
+        Calls.putAll(x, 1, 30, 5, 20, 40);
+        due.refused(x, "pour(1, 0), the lowest same weight", x.pour(1, 0), 2, 20);
         for (int i = 0; i < 26; i++) {
             x.put(1, 500 + i, 1);
         }
         due.is("rickOf(1, 0)", x.rickOf(1, 0), 30);
         // too many: asked ahead of the same weight
-        refused(x, "pour(1, 0)", x.pour(1, 0), 1, 33);
-        refused(x, "pour(0, 1)", x.pour(0, 1), 1, 33);
+        due.refused(x, "pour(1, 0)", x.pour(1, 0), 1, 33);
+        due.refused(x, "pour(0, 1)", x.pour(0, 1), 1, 33);
         for (int i = 0; i < 3; i++) {
             x.take(1, 500 + i);
         }
-        refused(x, "pour(0, 1)", x.pour(0, 1), 2, 20);
+        due.refused(x, "pour(0, 1)", x.pour(0, 1), 2, 20);
         x.take(1, 20);
         x.take(1, 30);
         x.put(1, 500, 1);
@@ -385,11 +345,11 @@ public final class PromiseTests {
 
     private static void promise6() {
         due.part("promise 6");
-        LeaningRicks x = with(0, 10, 20, 30, 5, 6);
+        LeaningRicks x = Calls.with(0, 10, 20, 30, 5, 6);
         due.is("limit(54)", x.limit(54), BAD);
         due.is("limit(91)", x.limit(91), BAD);
         due.is("limit(MIN)", x.limit(Integer.MIN_VALUE), BAD);
-        refused(x, "limit(70)", x.limit(70), 4, 70);
+        due.refused(x, "limit(70)", x.limit(70), 4, 70);
         long shape = x.shape(0);
         due.is("limit(55)", x.limit(55), 70);
         due.is("shape(0)", x.shape(0), shape);
@@ -437,7 +397,7 @@ public final class PromiseTests {
         due.is("sheafOf(0, 50, 4)", x.sheafOf(0, 50, 4), 1);
         x.limit(67);
         due.is("sheafOf(0, 50, 4)", x.sheafOf(0, 50, 4), 0);
-        LeaningRicks y = with(1, 9, 8, 7);
+        LeaningRicks y = Calls.with(1, 9, 8, 7);
         due.is("sheafOf(1, 9, 4), 200 is not more than 210", y.sheafOf(1, 9, 4), 0);
         y.limit(66);
         due.is("sheafOf(1, 9, 4), 200 is more than 198", y.sheafOf(1, 9, 4), 1);
@@ -480,7 +440,7 @@ public final class PromiseTests {
 
     private static void promise9And10() {
         due.part("promises 9 and 10");
-        LeaningRicks x = with(0, 50, 20, 80, 60, 90, 55, 0, 999);
+        LeaningRicks x = Calls.with(0, 50, 20, 80, 60, 90, 55, 0, 999);
         int[][] ranks = {{Integer.MIN_VALUE, 0}, {-1, 0}, {0, 0}, {1, 1}, {20, 1}, {21, 2},
             {50, 2}, {55, 3}, {56, 4}, {80, 5}, {81, 6}, {999, 7}, {1000, 8},
             {Integer.MAX_VALUE, 8}};
@@ -498,7 +458,7 @@ public final class PromiseTests {
 
     private static void promise11() {
         due.part("promise 11");
-        LeaningRicks x = with(1, 50, 20, 80, 0);
+        LeaningRicks x = Calls.with(1, 50, 20, 80, 0);
         int[] order = {0, 20, 50, 80};
         for (int place = 0; place < order.length; place++) {
             due.is("at(1, " + place + ")", x.at(1, place), order[place]);
@@ -587,7 +547,7 @@ public final class PromiseTests {
 
     private static void promise17() {
         due.part("promise 17");
-        LeaningRicks x = with(0, 50, 20, 80, 60);
+        LeaningRicks x = Calls.with(0, 50, 20, 80, 60);
         // 1 (20: 1 0 0) (80: 1 (60: 1 0 0) 0)
         due.is("shape(0)", x.shape(0), 0b110011000L);
         due.is("shape(1)", x.shape(1), 0);
@@ -605,7 +565,7 @@ public final class PromiseTests {
 
     private static void promise18() {
         due.part("promise 18");
-        LeaningRicks x = with(1, 936, 999, 0, 63, 64, 100);
+        LeaningRicks x = Calls.with(1, 936, 999, 0, 63, 64, 100);
         due.is("weights(1, 936)", x.weights(1, 936), 1L | 1L << 63);
         due.is("weights(1, 937)", x.weights(1, 937), 0);
         due.is("weights(1, -1)", x.weights(1, -1), 0);
@@ -622,7 +582,7 @@ public final class PromiseTests {
 
     private static void promise19And20() {
         due.part("promises 19 and 20");
-        LeaningRicks x = with(0, 50, 20, 80, 60, 90, 55);
+        LeaningRicks x = Calls.with(0, 50, 20, 80, 60, 90, 55);
         due.is("leaningShare(0)", x.leaningShare(0), 0);
         x.limit(66);
         due.is("leaningShare(0)", x.leaningShare(0), Float.floatToIntBits(1f / 6f));
@@ -663,26 +623,26 @@ public final class PromiseTests {
     private static void promise22Orders() {
         due.part("promise 22, orders");
         LeaningRicks x = new LeaningRicks();
-        due.is("run of one", runText(x, "+2:007*09"), 1);
+        due.is("run of one", Calls.runText(x, "+2:007*09"), 1);
         due.is("sheafOf(2, 7, 0)", x.sheafOf(2, 7, 0), 9);
-        due.is("run of five", runText(x, "+0:5*1;+0:4*2;+0:6*3;-0:4;=0"), 5);
-        tells(x, 0, "(5(6))");
+        due.is("run of five", Calls.runText(x, "+0:5*1;+0:4*2;+0:6*3;-0:4;=0"), 5);
+        due.tells(x, 0, "(5(6))");
         due.is("account(2)", x.account(2), 4);
         due.is("account(3)", x.account(3), 1);
         due.is("account(5)", x.account(5), 2);
         due.is("account(10), a text is one change", x.account(10), 2);
-        due.is("run of two", runText(x, ">02;%55"), 2);
-        tells(x, 2, "((5)6(7))");
+        due.is("run of two", Calls.runText(x, ">02;%55"), 2);
+        due.tells(x, 2, "((5)6(7))");
         due.is("account(8)", x.account(8), 55);
         due.is("account(7)", x.account(7), 1);
         due.is("account(9)", x.account(9), 0);
         due.is("undo()", x.undo(), 2);
-        tells(x, 0, "(5(6))");
+        due.tells(x, 0, "(5(6))");
         due.is("account(8)", x.account(8), 70);
         due.is("undo()", x.undo(), 1);
         due.is("rickOf(0, 0)", x.rickOf(0, 0), 0);
         // a text by which nothing is different in the end is a change, too
-        due.is("run of two", runText(x, "%71;%70"), 2);
+        due.is("run of two", Calls.runText(x, "%71;%70"), 2);
         due.is("account(10)", x.account(10), 2);
     }
 
@@ -697,7 +657,7 @@ public final class PromiseTests {
             {">", 1}, {">0", 2}, {">0;", 2}, {">012", 3}, {">0:1", 2}, {"%", 1}, {"%;", 1},
             {"%123", 3}, {"%7 ", 2}, {"=0;x", 3}, {"=0=", 2}, {"+-1", 1}};
         for (Object[] row : faults) {
-            due.is("run of " + row[0], runText(x, (String) row[0]), -1000 - (Integer) row[1]);
+            due.is("run of " + row[0], Calls.runText(x, (String) row[0]), -1000 - (Integer) row[1]);
             due.is("account(9)", x.account(9), 0);
         }
         due.is("reason(false)", x.reason(false), NOTHING);
@@ -707,15 +667,15 @@ public final class PromiseTests {
 
     private static void promise22Refused() {
         due.part("promise 22, refused");
-        LeaningRicks x = with(1, 5, 4);
+        LeaningRicks x = Calls.with(1, 5, 4);
         Object[][] bad = {{"+3:1*1", 0}, {"+0:1*0", 0}, {"+0:1*00", 0}, {"%54", 0}, {"%5", 0},
             {"%91", 0}, {"%70", 0}, {"=0", 0}, {"=9", 0}, {"-0:1", 0}, {"-7:1", 0}, {">11", 0},
             {">01", 0}, {">13", 0}, {">31", 0}, {"+1:5*1", 0}, {"+0:1*1;+0:1*1", 1},
             {"+0:1*1;%60;-1:5;>10;-0:5", 4}, {"%60;%60", 1}, {"-1:5;-1:4;=1", 2},
             {"-0:5;+3:1*1", 0}};
         for (Object[] row : bad) {
-            refused(x, "run of " + row[0], runText(x, (String) row[0]), 6, (Integer) row[1]);
-            tells(x, 1, "((4)5)");
+            due.refused(x, "run of " + row[0], Calls.runText(x, (String) row[0]), 6, (Integer) row[1]);
+            due.tells(x, 1, "((4)5)");
             due.is("account(0)", x.account(0), 2);
             due.is("account(2)", x.account(2), 2);
             due.is("account(3)", x.account(3), 0);
@@ -725,24 +685,24 @@ public final class PromiseTests {
             due.is("account(10)", x.account(10), 2);
         }
         due.is("undo()", x.undo(), 1);
-        tells(x, 1, "(5)");
+        due.tells(x, 1, "(5)");
     }
 
     private static void promise22Longest() {
         due.part("promise 22, longest");
-        LeaningRicks x = with(0, 1);
+        LeaningRicks x = Calls.with(0, 1);
         String twenty = "=0;=0;=0;=0;=0;=0;=0;=0;=0;=0;=0;=0;=0;=0;=0;=0;=0;=0;=0;=0";
-        due.is("run of twenty", runText(x, twenty), 20);
+        due.is("run of twenty", Calls.runText(x, twenty), 20);
         due.is("account(5)", x.account(5), 20);
-        due.is("run that ends too early", runText(x, twenty + ";"), -1060);
+        due.is("run that ends too early", Calls.runText(x, twenty + ";"), -1060);
         due.is("account(5)", x.account(5), 20);
         due.is("account(10)", x.account(10), 2);
     }
 
     private static void promise23And24() {
         due.part("promises 23 and 24");
-        LeaningRicks x = with(0, 7, 3, 9);
-        tells(x, 0, "((3)7(9))");
+        LeaningRicks x = Calls.with(0, 7, 3, 9);
+        due.tells(x, 0, "((3)7(9))");
         due.is("character(0)", x.character(0), '(');
         due.is("character(2)", x.character(2), '3');
         due.is("character(9)", x.character(9), NONE);
@@ -756,15 +716,15 @@ public final class PromiseTests {
         x.put(0, 10, 1);
         due.is("the line stays", x.character(4), '7');
         x.put(0, 100, 1);
-        tells(x, 0, "((3)7(10(100)))");
+        due.tells(x, 0, "((3)7(10(100)))");
         x.limit(55);
         x.put(1, 999, 1);
         x.put(1, 0, 1);
-        tells(x, 1, "((0)999)");
+        due.tells(x, 1, "((0)999)");
         x.limit(90);
         x.put(1, 55, 1);
         x.limit(60);
-        tells(x, 1, "((0(55))999!)");
+        due.tells(x, 1, "((0(55))999!)");
         due.is("tell(2)", x.tell(2), 0);
         due.is("character(0) of the empty line", x.character(0), NONE);
         LeaningRicks y = new LeaningRicks();
@@ -782,7 +742,7 @@ public final class PromiseTests {
 
     private static void promise25() {
         due.part("promise 25");
-        LeaningRicks x = with(0, 7);
+        LeaningRicks x = Calls.with(0, 7);
         x.put(0, 7, 1);
         x.limit(70);
         due.is("reason(false)", x.reason(false), 4);
@@ -823,7 +783,7 @@ public final class PromiseTests {
 
     private static void promise27() {
         due.part("promise 27");
-        LeaningRicks x = with(0, 1, 2, 3, 4, 5, 6, 7);
+        LeaningRicks x = Calls.with(0, 1, 2, 3, 4, 5, 6, 7);
         due.is("isBalanced()", x.isBalanced(), 1);
         x.take(0, 4);
         due.is("isBalanced()", x.isBalanced(), 1);
@@ -840,10 +800,10 @@ public final class PromiseTests {
 
     private static void promise28() {
         due.part("promise 28");
-        LeaningRicks x = with(0, 1, 2, 3, 4);
+        LeaningRicks x = Calls.with(0, 1, 2, 3, 4);
         due.is("account(6)", x.account(6), 4);
         due.is("undo()", x.undo(), 3);
-        tells(x, 0, "(1(2(3)))");
+        due.tells(x, 0, "(1(2(3)))");
         due.is("account(2)", x.account(2), 3);
         due.is("account(4)", x.account(4), 0);
         due.is("account(6)", x.account(6), 0);
@@ -853,7 +813,7 @@ public final class PromiseTests {
         due.is("account(3)", x.account(3), 0);
         x.build(0);
         x.undo();
-        tells(x, 0, "(1(2(3)))");
+        due.tells(x, 0, "(1(2(3)))");
         due.is("account(5)", x.account(5), 0);
         x.pour(0, 2);
         x.undo();
@@ -869,14 +829,14 @@ public final class PromiseTests {
 
     private static void promise28Kept() {
         due.part("promise 28, the latest 8");
-        LeaningRicks x = with(0, 10, 20, 30, 40, 50, 60, 70, 80, 90, 100);
+        LeaningRicks x = Calls.with(0, 10, 20, 30, 40, 50, 60, 70, 80, 90, 100);
         due.is("account(10)", x.account(10), 8);
         // what is refused or answered with a code takes no room
         x.put(0, 10, 1);
         x.put(0, 10, 0);
         x.take(0, 11);
         x.limit(70);
-        runText(x, "=0;=1");
+        Calls.runText(x, "=0;=1");
         x.append('+');
         due.is("account(10)", x.account(10), 8);
         for (int i = 7; i >= 0; i--) {
@@ -886,12 +846,12 @@ public final class PromiseTests {
         due.is("undo()", x.undo(), NOTHING);
         due.is("rickOf(0, 0)", x.rickOf(0, 0), 2);
         due.is("the text stays", x.account(9), 1);
-        tells(x, 0, "(10(20))");
+        due.tells(x, 0, "(10(20))");
     }
 
     private static void promise29And30() {
         due.part("promises 29 and 30");
-        LeaningRicks x = with(0, 10, 20);
+        LeaningRicks x = Calls.with(0, 10, 20);
         x.put(2, 5, 50);
         due.is("restore()", x.restore(), NOTHING);
         due.is("account(10)", x.account(10), 3);
@@ -907,8 +867,8 @@ public final class PromiseTests {
         due.is("restore()", x.restore(), 3);
         due.is("account(10)", x.account(10), 0);
         due.is("undo()", x.undo(), NOTHING);
-        tells(x, 0, "(10(20))");
-        tells(x, 2, "(5)");
+        due.tells(x, 0, "(10(20))");
+        due.tells(x, 2, "(5)");
         int[] accounts = {3, 52, 3, 0, 0, 0, 0, 0, 60, 1, 0};
         for (int what = 0; what < accounts.length; what++) {
             due.is("account(" + what + ")", x.account(what), accounts[what]);
