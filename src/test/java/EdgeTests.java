@@ -439,6 +439,15 @@ public final class EdgeTests {
         for (int place = 0; place < order.length; place++) {
             due.is("heaviest(" + place + ")", x.heaviest(place), order[place]);
         }
+        due.part("heaviest: the very first and the very last there can be");
+        LeaningRicks both = new LeaningRicks();
+        both.put(2, 999, 1);
+        both.put(2, 998, 1);
+        both.put(0, 0, 99);
+        int[] far = {0, 2998, 2999};
+        for (int place = 0; place < far.length; place++) {
+            due.is("heaviest(" + place + ")", both.heaviest(place), far[place]);
+        }
         due.part("heaviest: ninety sheaves");
         LeaningRicks ninety = new LeaningRicks();
         for (int rick = 0; rick < 3; rick++) {
@@ -849,7 +858,28 @@ public final class EdgeTests {
         due.is("after pour(1, 2)", x.isBalanced(), 1);
         x.undo();
         due.is("after undo()", x.isBalanced(), 1);
+        balancedHoweverItLeans();
         asksOnly("isBalanced", y -> y.isBalanced());
+    }
+
+    private static void balancedHoweverItLeans() {
+        due.part("isBalanced: however it leans");
+        for (int limit = 55; limit <= 90; limit += 7) {
+            LeaningRicks x = new LeaningRicks();
+            x.limit(limit);
+            for (int i = 0; i < 30; i++) {
+                x.put(0, i, 99);
+                x.put(1, 29 - i, 1 + i);
+                x.put(2, i * 7 % 30, 99 - i);
+                due.is("with " + (i + 1) + " in each, limit " + limit, x.isBalanced(), 1);
+            }
+            for (int i = 0; i < 30; i++) {
+                x.take(0, 29 - i);
+                x.take(1, i);
+                x.take(2, i * 11 % 30);
+                due.is("with " + (29 - i) + " in each, limit " + limit, x.isBalanced(), 1);
+            }
+        }
     }
 
     private static void promise28() {
